@@ -856,18 +856,18 @@ public final class TideRakes {
             }
         }
 
-        /** Goes over a TOKEN of that kind. ROOM is looked at last: of one place the least FAULT is told. */
+        /** Goes over a TOKEN of that kind. A 401st one is ROOM only if it fits: of one place the least FAULT is told. */
         private boolean accept(int kind) {
-            if (kinds[at] != kind) {
-                fail(SYNTAX);
-            } else if (at >= MOST_TOKENS) {
-                fail(ROOM);
-            }
             if (fault != 0) {
                 return false;
             }
-            at++;
-            return true;
+            if (kinds[at] == kind && at < MOST_TOKENS) {
+                at++;
+                return true;
+            }
+            fault = kinds[at] == kind ? ROOM : SYNTAX;
+            faultPlace = places[at];
+            return false;
         }
 
         private void fail(int number) {
@@ -1266,7 +1266,9 @@ public final class TideRakes {
         final int[] rakedBy = new int[PARTS];
         final boolean[] crossed = new boolean[PARTS];
         /** The first acts only: with more of them LATE tells nothing. */
-        final int[] actRow = new int[REPLAYED];
+        final int[] actKinds = new int[REPLAYED];
+        final int[] actWorkers = new int[REPLAYED];
+        final int[] actParts = new int[REPLAYED];
         int acts;
 
         Stand() {
@@ -1298,7 +1300,9 @@ public final class TideRakes {
                 rakedBy[i] = other.rakedBy[i];
                 crossed[i] = other.crossed[i];
             }
-            System.arraycopy(other.actRow, 0, actRow, 0, REPLAYED);
+            System.arraycopy(other.actKinds, 0, actKinds, 0, REPLAYED);
+            System.arraycopy(other.actWorkers, 0, actWorkers, 0, REPLAYED);
+            System.arraycopy(other.actParts, 0, actParts, 0, REPLAYED);
             acts = other.acts;
         }
 
@@ -1354,25 +1358,11 @@ public final class TideRakes {
 
         private void addAct(int kind, int worker, int part) {
             if (acts < REPLAYED) {
-                actRow[acts] = kind * 64 + worker * 8 + part;
+                actKinds[acts] = kind;
+                actWorkers[acts] = worker;
+                actParts[acts] = part;
             }
             acts++;
-        }
-
-        void doAgain(Shore shore, int act) {
-            int kind = act / 64;
-            int worker = act / 8 % 8;
-            int part = act % 8;
-            if (part < 0 || part >= PARTS || worker < 0 || worker >= WORKERS) {
-                return;
-            }
-            if (kind == SENT) {
-                rake(shore, worker, part);
-            } else if (kind == CROSSED) {
-                strike(part);
-            } else {
-                repair(shore, worker, part);
-            }
         }
 
         /** The minute from which a PART that was DONE can be SEEN. */
@@ -1660,13 +1650,14 @@ public final class TideRakes {
         }
 
         int visibleAfter(Shore shore, Stand stand, int worker, int b, int minute) {
-            int size = trace(shore, stand, worker, b);
+            Rows own = rowsOf(shore, stand, worker);
+            int size = own.trace(own.bestSet(shore.worthOf, b), row);
             int raked = 0;
             int set = 0;
             for (int i = 0; i < size; i++) {
                 int part = row[i];
                 raked |= 1 << part;
-                int done = rows[worker].ends[raked * PARTS + part];
+                int done = own.ends[raked * PARTS + part];
                 if (done <= minute && !shore.sands[part].washed(done, minute)) {
                     set |= 1 << part;
                 }
@@ -1825,7 +1816,15 @@ public final class TideRakes {
             again.walkers[worker].ready = late;
             int acts = Math.min(stand.acts, REPLAYED);
             for (int i = 0; i < acts; i++) {
-                again.doAgain(shore, stand.actRow[i]);
+                int by = stand.actWorkers[i];
+                int part = stand.actParts[i];
+                if (stand.actKinds[i] == Stand.SENT) {
+                    again.rake(shore, by, part);
+                } else if (stand.actKinds[i] == Stand.CROSSED) {
+                    again.strike(part);
+                } else {
+                    again.repair(shore, by, part);
+                }
             }
         }
 
