@@ -37,6 +37,7 @@ public final class PromisesTest {
         sizes();
         dogs();
         errors();
+        errorsThatGrow();
         tellings();
         lateOnes();
         slots();
@@ -317,6 +318,13 @@ public final class PromisesTest {
         due("a not seen ahead", rakes.seen(53), 0);
         due("u keeps the worth", rakes.worker(0, 4), 10);
         due("t has it too", rakes.worker(2, 4), 10);
+        // v comes at 62 and mends a for a minute; t rakes it again ahead of that: what was MENDED is no more
+        rakes = Bench.told(BEACH.replace("worker v 6 6 2", "worker v 62 0 1"));
+        due("send u a", rakes.send(0, 0), 14);
+        due("cross a", rakes.cross(0), true);
+        due("v mends a", rakes.mend(1, 0), 63);
+        due("t rakes a", rakes.send(2, 0), 54);
+        due("a seen ahead of the mending", rakes.seen(54), 1);
         rakes = Bench.told(BEACH.replace("worker t 40 0 1", "worker t 39 0 1"));
         due("send u a", rakes.send(0, 0), 14);
         due("t comes a minute ahead", rakes.send(2, 0), -2);
@@ -450,6 +458,8 @@ public final class PromisesTest {
         TideRakes alike = Bench.told("part a 0 1 5 1;part b 1 1 5 1;part c 1 1 0 1;worker w 1 1 1;");
         duePlan(alike, 0, 1, 5, 1, 2);
         duePlan(alike, 0, 600, 10, 3, 3);
+        alike = Bench.told("part a 1 1 5 1;part b 1 1 5 1;worker w 1 1 1;");
+        duePlan(alike, 0, 1, 5, 1, 1);
     }
 
     private static void sharedPlans() {
@@ -469,6 +479,9 @@ public final class PromisesTest {
         rakes.send(0, 1);
         due("hands without what is done", rakes.hands(600, 1), 5);
         due("two without what is done", rakes.two(0, 1, 600, 2), 5);
+        TideRakes first = Bench.told("part a 0 1 5 1;part b 0 1 5 1;worker w 0 1 20;worker u 99 99 1;");
+        due("the first one does all", first.two(0, 1, 50, 1), 3);
+        due("the other one nothing", first.two(0, 1, 50, 2), 0);
         TideRakes none = Bench.told("part a 0 1 5 1;");
         due("hands of nobody", none.hands(600, 0), 0);
         TideRakes empty = Bench.told("part a 0 1 0 1;worker w 0 1 1;");
@@ -488,6 +501,8 @@ public final class PromisesTest {
         due("quickest behind c: a", rakes.quickest(0, 0), 0);
         rakes.send(0, 0);
         due("quickest of t: a again, washed", rakes.quickest(2, 0), 0);
+        TideRakes alike = Bench.told("part a 9 1 1 1;part b 0 2 1 1;part c 1 1 1 1;worker w 0 1 1;");
+        due("quickest of alike ones", alike.quickest(0, 0), 1);
         TideRakes covered = Bench.told("part a 0 0 1 1;worker w 0 0 1;");
         due("quickest of none", covered.quickest(0, 0), -2);
         due("quickest of none: when", covered.quickest(0, 1), -2);
@@ -517,6 +532,12 @@ public final class PromisesTest {
         due("mends by 24", rakes.mends(0, 24, 2), 2);
         due("mends by 21", rakes.mends(0, 21, 2), 0);
         due("mends by 21: ready", rakes.mends(0, 21, 1), 20);
+        TideRakes slow = Bench.told("part a 0 1 1 1; part b 99 97 1 12; worker w 0 1 1; worker u 0 1 1; holds 401 600;");
+        slow.send(0, 0);
+        slow.send(1, 1);
+        slow.cross(1);
+        due("mended at 600", slow.mends(0, 600, 1), 600);
+        due("mended by 599", slow.mends(0, 599, 2), 0);
     }
 
     // ---- promises 27 to 33
@@ -530,6 +551,7 @@ public final class PromisesTest {
         due("its last", rakes.window(0, 1, true), 74);
         due("third", rakes.window(0, 2, false), -1);
         due("c", rakes.window(2, 0, true), 24);
+        due("up to the day's end", Bench.told("part a 0 1 1 1;holds 599 600;").window(0, 0, true), 599);
     }
 
     private static void sizes() {
@@ -549,6 +571,9 @@ public final class PromisesTest {
         due("7 and 3", rakes.large(10), 4);
         rakes = Bench.told("part a 4 0 1 1;worker w 0 0 20;high=if x<5 then 1 else if x<9 then 0 else if x<10 then 1 else 0;");
         due("as high as that place", rakes.large(600), 9);
+        // by y 8 above the peg: 2 of it a quarter, up to 7 HIGH enough
+        rakes = Bench.told("part a 3 2 1 1;worker w 3 10 20;peg 3 10;high=if y<4 then 0 else 1;");
+        due("by y, from the peg", rakes.large(600), 3);
         due("nobody", Bench.told("part a 4 0 1 1;high=1;").large(600), 0);
         rakes = Bench.told("part a 0 0 0 5;part b 0 0 0 5;worker w 0 0 1;worker u 0 0 1;high=1;");
         due("shared, and what is worth nothing too", rakes.large(5), 4);
@@ -572,6 +597,17 @@ public final class PromisesTest {
         due("hopes of nothing", rakes.hopes(39, 0, 50), 50);
         due("hope", rakes.hope(39, 50), (50 - over) * 20 * 39);
         due("seen all the same", rakes.seen(39), 2);
+        due("the minute itself counts", Bench.read(rakes, BEACH + "dog=if minute<39 then 0 else 100;"), 0);
+        rakes.send(0, 1);
+        due("not yet run over", rakes.hopes(38, 1, 5), 5);
+        due("run over in it", rakes.hopes(39, 1, 5), 0);
+        due("a text without a seed", Bench.read(rakes, BEACH.replace("seed 3;", "")), 0);
+        rakes.send(0, 1);
+        TideRakes zero = Bench.told(BEACH + "seed 0;");
+        zero.send(0, 1);
+        for (int n = 1; n <= 50; n++) {
+            due("seeds from 0 on, " + n, rakes.hopes(30, 1, n), zero.hopes(30, 1, n));
+        }
         due("a LOT", Model.lot(100, 0, 0), lotByLong(100, 0, 0));
         due("another LOT", Model.lot(100, 9999, 4807), lotByLong(100, 9999, 4807));
     }
@@ -607,6 +643,14 @@ public final class PromisesTest {
         due("a", rakes.error(0, false), 2);
         due("b: 9 from the peg, from c, from a, from d", rakes.error(1, true), -2);
         due("b", rakes.error(1, false), 9);
+    }
+
+    private static void errorsThatGrow() {
+        // a 2 from the peg; b from a: far 3, off 2 make 8, which is less than from the peg: 25
+        TideRakes rakes = Bench.told("part b 5 0 1 1;part a 2 0 1 1;slip=if off<1 then far*far-far/2*2+far/5*4 else far*off;");
+        due("a", rakes.error(1, false), 2);
+        due("b", rakes.error(0, false), 8);
+        due("b from a", rakes.error(0, true), 1);
     }
 
     // ---- promises 34 to 36
@@ -693,6 +737,36 @@ public final class PromisesTest {
         due("it stays there", rakes.restore(2), true);
         due("a is done, b not", rakes.count(4), 1);
         due("another slot", rakes.restore(1), false);
+        heldPlans();
+        heldActs();
+    }
+
+    private static void heldPlans() {
+        TideRakes rakes = beach();
+        rakes.hold(0);
+        rakes.send(0, 1);
+        due("plan without b", rakes.plan(0, 600, 2), 5);
+        due("hands without b", rakes.hands(600, 1), 5);
+        rakes.restore(0);
+        due("plan with b again", rakes.plan(0, 600, 2), 7);
+        due("hands with b again", rakes.hands(600, 1), 7);
+        rakes.send(0, 1);
+        due("plan without b", rakes.plan(0, 600, 2), 5);
+        rakes.undo();
+        due("plan with b once more", rakes.plan(0, 600, 2), 7);
+    }
+
+    private static void heldActs() {
+        TideRakes rakes = beach();
+        rakes.send(1, 0);
+        rakes.hold(0);
+        rakes.undo();
+        rakes.send(0, 1);
+        rakes.restore(0);
+        rakes.tell(0, 14, true);
+        // v comes at 6: by 5 he is still in time
+        due("ways by what was held", rakes.late(1, -1), 61 + 5 + 60);
+        due("v by 5", rakes.late(1, 61 + 4), 105);
     }
 
     private static void counts() {
