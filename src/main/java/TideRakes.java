@@ -1411,8 +1411,10 @@ public final class TideRakes {
     /** What the last acts changed: each touches one PART and one WORKER at most. */
     private static final class Past {
         static final int NOTED = 10;
+        /** One more than can be undone: an act is noted ahead of being tried, and a refused one must spoil no kept note. */
+        static final int PLACES = UNDOABLE + 1;
 
-        final int[] notes = new int[UNDOABLE * NOTED];
+        final int[] notes = new int[PLACES * NOTED];
         int next;
         int size;
 
@@ -1432,7 +1434,7 @@ public final class TideRakes {
         }
 
         void keep() {
-            next = (next + 1) % UNDOABLE;
+            next = (next + 1) % PLACES;
             size = Math.min(size + 1, UNDOABLE);
         }
 
@@ -1441,7 +1443,7 @@ public final class TideRakes {
                 return false;
             }
             size--;
-            next = (next + UNDOABLE - 1) % UNDOABLE;
+            next = (next + PLACES - 1) % PLACES;
             int at = next * NOTED;
             Walker walker = stand.walkers[notes[at]];
             int part = notes[at + 1];

@@ -544,8 +544,8 @@ final class Model {
 
     // ---- what would be
 
-    /** A row of PARTS, when it ends, and its bits. */
-    record Row(List<Integer> parts, int end, int bits) {
+    /** A row of PARTS, when each of them ends, when the row ends, and its bits. */
+    record Row(List<Integer> parts, List<Integer> ends, int end, int bits) {
     }
 
     /** What a WORKER does with a PART from a state: -2 if he can't. */
@@ -555,28 +555,53 @@ final class Model {
 
     List<Row> rows(State s, int w, int b, Doing doing) {
         List<Row> all = new ArrayList<>();
-        extend(s, w, b, doing, new ArrayList<>(), all);
+        extend(s, w, b, doing, new Row(List.of(), List.of(), s.workers[w][2], 0), all);
         return all;
     }
 
-    private void extend(State s, int w, int b, Doing doing, List<Integer> row, List<Row> all) {
-        int bits = 0;
-        for (int p : row) {
-            bits |= 1 << p;
-        }
-        all.add(new Row(new ArrayList<>(row), s.workers[w][2], bits));
+    private void extend(State s, int w, int b, Doing doing, Row row, List<Row> all) {
+        all.add(row);
         for (int p = 0; p < text.parts.size(); p++) {
-            if (row.contains(p)) {
+            if (row.parts.contains(p)) {
                 continue;
             }
             State next = new State(s);
             int end = doing.act(next, p);
             if (end >= 0 && end <= b) {
-                row.add(p);
-                extend(next, w, b, doing, row, all);
-                row.remove(row.size() - 1);
+                extend(next, w, b, doing, new Row(with(row.parts, p), with(row.ends, end), end, row.bits | 1 << p), all);
             }
         }
+    }
+
+    private static List<Integer> with(List<Integer> all, int one) {
+        List<Integer> more = new ArrayList<>(all);
+        more.add(one);
+        return more;
+    }
+
+    /** The rows of which each row up to a PART is DONE as soon as it can be, by these PARTS with that one the last. */
+    private static List<Row> prompt(List<Row> rows) {
+        int[] soonest = new int[256 * 8];
+        Arrays.fill(soonest, Integer.MAX_VALUE);
+        for (Row row : rows) {
+            if (row.bits != 0) {
+                int at = row.bits * 8 + row.parts.get(row.parts.size() - 1);
+                soonest[at] = Math.min(soonest[at], row.end);
+            }
+        }
+        List<Row> all = new ArrayList<>();
+        for (Row row : rows) {
+            int bits = 0;
+            boolean fits = true;
+            for (int i = 0; i < row.parts.size(); i++) {
+                bits |= 1 << row.parts.get(i);
+                fits &= row.ends.get(i) == soonest[bits * 8 + row.parts.get(i)];
+            }
+            if (fits) {
+                all.add(row);
+            }
+        }
+        return all;
     }
 
     List<Row> rakings(State s, int w, int b) {
@@ -585,7 +610,7 @@ final class Model {
 
     Row best(List<Row> rows) {
         Row best = rows.get(0);
-        for (Row row : rows) {
+        for (Row row : prompt(rows)) {
             int more = worth(row.bits) - worth(best.bits);
             int later = row.end - best.end;
             boolean better = more > 0 || more == 0 && (later < 0 || later == 0 && (row.bits < best.bits

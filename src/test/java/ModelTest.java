@@ -25,6 +25,7 @@ public final class ModelTest {
         }
         for (int i = 0; i < runs; i++) {
             new ModelTest(1000 + i + offset).run(i);
+            new ModelTest(500000 + i + offset).longDay(i);
         }
         Bench.end();
     }
@@ -246,7 +247,9 @@ public final class ModelTest {
                 story = "run " + number + " [" + text + "] ";
                 due("read", rakes.read(), model.read());
             }
-            if (below(2) == 0) {
+            if (below(50) == 0) {
+                readBroken();
+            } else if (below(2) == 0) {
                 act();
             } else if (below(2) == 0) {
                 ask();
@@ -257,6 +260,66 @@ public final class ModelTest {
         }
         for (int what = -1; what < 12; what++) {
             due("count(" + what + ")", rakes.count(what), model.count(what));
+        }
+    }
+
+    /** Most such texts have a FAULT and must change nothing of what goes on. */
+    private void readBroken() {
+        String text = goodText(5);
+        text = below(2) == 0 ? unlikely(text) : broken(text);
+        if (text.length() > 1990) {
+            return;
+        }
+        feedBoth(text);
+        due("read of [" + text + "]", rakes.read(), model.read());
+        due("place()", rakes.place(), model.place);
+        due("count(8)", rakes.count(8), model.count(8));
+        due("count(9)", rakes.count(9), model.count(9));
+        due("count(10)", rakes.count(10), model.count(10));
+    }
+
+    /** More acts than can be undone, some of them refused, then undone one by one: all is looked at each time. */
+    private void longDay(int number) {
+        rakes = new TideRakes();
+        model = new Model();
+        String text = "part a 0 9 9 1; part b 2 8 7 2; part c 1 9 5 4; part d 3 3 3 3; worker w 0 0 9; worker u 9 9 20; ";
+        feedBoth(text + pick("tide = if minute - minute / 40 * 40 < 3 then 9 else 2;", "tide = 4;", chanceTide()));
+        story = "long day " + number + ": ";
+        due("read", rakes.read(), model.read());
+        for (int round = 0; round < 3; round++) {
+            for (int i = 20 + below(70); i >= 0; i--) {
+                handle();
+            }
+            due("hold(0)", rakes.hold(0), model.hold(0));
+            for (int i = below(3) == 0 ? 41 : below(41); i >= 0; i--) {
+                due("undo()", rakes.undo(), model.undo());
+                lookAtAll();
+            }
+        }
+    }
+
+    private void handle() {
+        int p = chancePart();
+        int w = chanceWorker();
+        switch (below(3)) {
+            case 0 -> due("send(" + w + ", " + p + ")", rakes.send(w, p), model.send(w, p));
+            case 1 -> due("cross(" + p + ")", rakes.cross(p), model.cross(p));
+            default -> due("mend(" + w + ", " + p + ")", rakes.mend(w, p), model.mend(w, p));
+        }
+    }
+
+    private void lookAtAll() {
+        for (int p = 0; p < 4; p++) {
+            askPart(p);
+        }
+        askWorker(0);
+        askWorker(1);
+        due("count(6)", rakes.count(6), model.count(6));
+        due("count(8)", rakes.count(8), model.count(8));
+        int m = below(600);
+        due("seen(" + m + ")", rakes.seen(m), model.seen(model.state, m));
+        if (below(8) == 0) {
+            due("late(0, NONE)", rakes.late(0, -1), model.late(0, -1));
         }
     }
 

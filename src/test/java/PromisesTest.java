@@ -28,6 +28,7 @@ public final class PromisesTest {
         washedAndRakedAgain();
         crossingAndMending();
         undoing();
+        undoingAfterRefusals();
         photographs();
         plans();
         sharedPlans();
@@ -407,6 +408,94 @@ public final class PromisesTest {
         due("five mendings are left", rakes.worker(0, 2), 19);
     }
 
+    /** Each act that can't be done, asked for while 40 things can be undone, must leave what undo brings back. */
+    private static void undoingAfterRefusals() {
+        TideRakes rakes = fortyDone();
+        due("send of what is done", rakes.send(0, 0), -2);
+        allUndone("send of the same part and worker", rakes);
+        rakes = fortyDone();
+        due("send of another worker", rakes.send(1, 0), -2);
+        allUndone("send of another worker", rakes);
+        rakes = fortyDone();
+        due("send to what is always covered", rakes.send(1, 1), -2);
+        allUndone("send of another part and worker", rakes);
+        rakes = fortyDone();
+        due("cross of what is crossed", rakes.cross(0), false);
+        allUndone("cross of the same part", rakes);
+        rakes = fortyDone();
+        due("cross of what never was done", rakes.cross(1), false);
+        allUndone("cross of another part", rakes);
+        rakes = fortyDone();
+        due("mend of what is not crossed", rakes.mend(0, 1), -2);
+        due("mend by another worker", rakes.mend(1, 2), -2);
+        allUndone("mend of other parts", rakes);
+        rakes = fortyDone();
+        due("mend beyond 600", rakes.mend(2, 0), -2);
+        allUndone("mend of the same part", rakes);
+        rakes = fortyDone();
+        due("no such ones", rakes.send(3, 0) + rakes.send(0, 3) + rakes.mend(-1, 0) + rakes.mend(0, -1), -4);
+        due("no such part to cross", rakes.cross(3), false);
+        allUndone("acts of no such ones", rakes);
+        undoingTheLastFortyOfMore();
+    }
+
+    /** Behind s, whom c keeps too long to mend a: a send and 39 crossings and mendings in turn; b is COVERED all day. */
+    private static TideRakes fortyDone() {
+        String text = "part a 0 9 9 1; part b 5 0 7 1; part c 99 9 5 2; worker w 0 0 9; worker u 9 9 3; worker s 99 9 1; ";
+        String laws = "high = if x < 5 then 9 else if x < 6 then 0 else 2; tide = if minute < 560 then 3 else 1;";
+        TideRakes rakes = Bench.told(text + laws);
+        due("s is at c till late", rakes.send(2, 2), 562);
+        due("a is done", rakes.send(0, 0), 2);
+        for (int i = 0; i < 19; i++) {
+            due("cross " + i, rakes.cross(0), true);
+            due("mend " + i, rakes.mend(0, 0), 3 + i);
+        }
+        due("cross", rakes.cross(0), true);
+        due("40 can be undone", rakes.count(8), 40);
+        return rakes;
+    }
+
+    private static void allUndone(String what, TideRakes rakes) {
+        due(what + ": 41 acts", rakes.count(6), 41);
+        due(what + ": 40 to undo", rakes.count(8), 40);
+        due(what + ": the last cross", rakes.undo(), true);
+        for (int i = 18; i >= 0; i--) {
+            due(what + ": not crossed", rakes.part(0, 2), 0);
+            due(what + ": w ready", rakes.worker(0, 2), 3 + i);
+            due(what + ": mend " + i, rakes.undo(), true);
+            due(what + ": crossed", rakes.part(0, 2), 1);
+            due(what + ": cross " + i, rakes.undo(), true);
+        }
+        due(what + ": done", rakes.part(0, 1), 2);
+        due(what + ": send", rakes.undo(), true);
+        due(what + ": never done", rakes.part(0, 1), -2);
+        due(what + ": by none", rakes.part(0, 5), -2);
+        due(what + ": w at his x", rakes.worker(0, 0), 0);
+        due(what + ": w at his y", rakes.worker(0, 1), 0);
+        due(what + ": w ready from the beginning", rakes.worker(0, 2), 0);
+        due(what + ": w without worth", rakes.worker(0, 4), 0);
+        due(what + ": u at his place", rakes.worker(1, 0), 9);
+        due(what + ": s as he was", rakes.worker(2, 2), 562);
+        due(what + ": the 41st back", rakes.undo(), false);
+        due(what + ": c stays done", rakes.part(2, 1), 562);
+        due(what + ": one act", rakes.count(6), 1);
+    }
+
+    private static void undoingTheLastFortyOfMore() {
+        TideRakes rakes = fortyDone();
+        due("one more", rakes.mend(0, 0), 22);
+        due("refused", rakes.mend(0, 0), -2);
+        due("refused again", rakes.send(0, 0), -2);
+        for (int i = 0; i < 40; i++) {
+            due("one of the last 40", rakes.undo(), true);
+        }
+        due("not more than 40", rakes.undo(), false);
+        due("the send stays", rakes.part(0, 1), 2);
+        due("not crossed", rakes.part(0, 2), 0);
+        due("two acts", rakes.count(6), 2);
+        due("w ready as after the send", rakes.worker(0, 2), 2);
+    }
+
     // ---- promises 15 to 17
 
     private static void photographs() {
@@ -460,6 +549,16 @@ public final class PromisesTest {
         duePlan(alike, 0, 600, 10, 3, 3);
         alike = Bench.told("part a 1 1 5 1;part b 1 1 5 1;worker w 1 1 1;");
         duePlan(alike, 0, 1, 5, 1, 1);
+        // d waits for the water till 300: c, b, a would be in time for it too, but b, c, a has a DONE sooner
+        TideRakes waiting = Bench.told("part a 30 9 1 1;part b 10 9 1 1;part c 20 9 1 1;part d 40 5 1 1;worker w 0 9 1;"
+            + "tide = if minute < 300 then 7 else 1;");
+        duePlan(waiting, 0, 600, 4, 301, 15);
+        int[] prompt = {1, 2, 0, 3, -2};
+        for (int i = 0; i < prompt.length; i++) {
+            due("prompt row at " + i, waiting.planAt(0, 600, i), prompt[i]);
+        }
+        due("a is seen by 33", waiting.after(0, 600, 33), 300);
+        due("not ahead of it", waiting.after(0, 600, 32), 200);
     }
 
     private static void sharedPlans() {
