@@ -290,7 +290,9 @@ public final class ModelTest {
             for (int i = 20 + below(70); i >= 0; i--) {
                 handle();
             }
-            due("hold(0)", rakes.hold(0), model.hold(0));
+            int seen = below(600);
+            boolean there = model.isSeen(model.state, round, seen);
+            due("tell()", rakes.tell(round, seen, there), model.tell(round, seen, there));
             for (int i = below(3) == 0 ? 41 : below(41); i >= 0; i--) {
                 due("undo()", rakes.undo(), model.undo());
                 lookAtAll();
@@ -319,7 +321,9 @@ public final class ModelTest {
         int m = below(600);
         due("seen(" + m + ")", rakes.seen(m), model.seen(model.state, m));
         if (below(8) == 0) {
-            due("late(0, NONE)", rakes.late(0, -1), model.late(0, -1));
+            int k = below(model.told.size() + 1);
+            due("late(" + k + ", NONE)", rakes.late(k, -1), model.late(k, -1));
+            due("late(" + k + ", 9)", rakes.late(k, 9), model.late(k, 9));
         }
     }
 
