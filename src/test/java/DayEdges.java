@@ -539,6 +539,7 @@ final class DayEdges {
         Edges.dueRow("u where he mended", what -> rakes.worker(1, what), 0, 1, 7, 3, 0);
         Edges.due("cross of a", rakes.undo(), true);
         Edges.due("a is SEEN", rakes.seen(7), 1);
+        Edges.due("from when it was MENDED", rakes.seen(6), 0);
         Edges.due("mend of a", rakes.undo(), true);
         Edges.due("a is CROSSED", rakes.part(0, 2), 1);
         Edges.dueRow("u at his place", what -> rakes.worker(1, what), 9, 9, 0, 3, 0);
@@ -555,6 +556,22 @@ final class DayEdges {
         again.send(1, 0);
         Edges.due("the second raking", again.undo(), true);
         Edges.dueRow("a", what -> again.part(0, what), 5, 2, 1, 9, 2, 0);
+        TideRakes both = Edges.told("part a 0 1 9 3;part b 0 2 7 3;worker w 0 1 1;");
+        both.send(0, 0);
+        both.send(0, 1);
+        Edges.due("WORTH of both", both.worker(0, 4), 16);
+        Edges.due("b", both.undo(), true);
+        Edges.dueRow("w by a alone", what -> both.worker(0, what), 0, 1, 3, 1, 9);
+        both.cross(0);
+        both.mend(0, 0);
+        Edges.due("the mending", both.undo(), true);
+        Edges.dueRow("w by a still", what -> both.worker(0, what), 0, 1, 3, 1, 9);
+        both.mend(0, 0);
+        both.cross(0);
+        Edges.due("MENDED again", both.mend(0, 0), 5);
+        both.undo();
+        both.undo();
+        Edges.due("MENDED from 4 on", both.seen(4) == 1 && both.seen(3) == 0, true);
     }
 
     private static void undoOfNone() {
@@ -573,23 +590,47 @@ final class DayEdges {
 
     private static void lastForty() {
         Edges.sentence(14, "(the last 40 can be)");
-        for (int acts = 38; acts <= 42; acts++) {
-            TideRakes rakes = Edges.told("part a 0 1 1 1;worker w 0 1 1;");
-            rakes.send(0, 0);
-            for (int i = 1; i < acts; i++) {
-                boolean happened = i % 2 == 1 ? rakes.cross(0) : rakes.mend(0, 0) > 0;
-                Edges.due("act " + i, happened, true);
-            }
+        for (int acts : new int[] {38, 39, 40, 41, 42, 43, 80, 81, 82, 83, 121, 122, 123, 200}) {
+            TideRakes rakes = manyActs(acts);
             Edges.due("acts", rakes.count(6), acts);
             Edges.due("that can be undone", rakes.count(8), Math.min(acts, 40));
-            for (int i = 0; i < Math.min(acts, 40); i++) {
+            // what can't be done takes no one's place
+            Edges.due("refused", rakes.send(0, 0), -2);
+            Edges.due("refused", acts % 2 == 0 ? !rakes.cross(0) : rakes.mend(0, 0) == -2, true);
+            for (int i = 1; i <= Math.min(acts, 40); i++) {
                 Edges.due("undo " + i + " of " + acts, rakes.undo(), true);
+                dueActs(rakes, acts - i);
             }
             Edges.due("undo of one more", rakes.undo(), false);
-            Edges.due("acts left", rakes.count(6), Math.max(0, acts - 40));
-            Edges.due("a DONE", rakes.part(0, 1), acts > 40 ? 1 : -2);
-            Edges.due("a CROSSED", rakes.part(0, 2), acts > 41 ? 1 : 0);
+            dueActs(rakes, Math.max(0, acts - 40));
         }
+        // undone and done anew, over and over
+        TideRakes rakes = manyActs(1);
+        for (int i = 0; i < 100; i++) {
+            Edges.due("undo " + i, rakes.undo(), true);
+            Edges.due("no more", rakes.undo(), false);
+            Edges.due("done anew", rakes.send(0, 0), 1);
+        }
+        dueActs(rakes, 1);
+    }
+
+    /** A send, then crossings and mendings in turn, a minute each. */
+    private static TideRakes manyActs(int acts) {
+        TideRakes rakes = Edges.told("part a 0 1 1 1;worker w 0 1 1;");
+        Edges.due("send", rakes.send(0, 0), 1);
+        for (int i = 1; i < acts; i++) {
+            Edges.due("act " + i, i % 2 == 1 ? rakes.cross(0) : rakes.mend(0, 0) == 1 + i / 2, true);
+        }
+        return rakes;
+    }
+
+    private static void dueActs(TideRakes rakes, int acts) {
+        Edges.due("acts left", rakes.count(6), acts);
+        Edges.due("a DONE", rakes.part(0, 1), acts > 0 ? 1 : -2);
+        Edges.due("a CROSSED", rakes.part(0, 2), acts > 0 && acts % 2 == 0 ? 1 : 0);
+        Edges.due("a by whom", rakes.part(0, 5), acts > 0 ? 0 : -2);
+        Edges.due("w ready", rakes.worker(0, 2), acts > 0 ? 1 + (acts - 1) / 2 : 0);
+        Edges.due("w's WORTH", rakes.worker(0, 4), acts > 0 ? 1 : 0);
     }
 
     // ---- promises 15 to 18
@@ -703,6 +744,9 @@ final class DayEdges {
         rakes = Edges.told("part a 0 1 0 3;worker w 0 1 1;");
         rakes.send(0, 0);
         Edges.due("worth nothing", rakes.bestMinute(), 0);
+        rakes = Edges.told("part a 0 1 1 3;worker w 0 1 1;sun=1;");
+        rakes.send(0, 0);
+        Edges.due("worth 1", rakes.bestMinute(), 3);
     }
 
     private static void staying() {

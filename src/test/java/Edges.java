@@ -80,7 +80,7 @@ final class Edges {
         }
     }
 
-    /** All that can be seen of an object without a change of it, by some 150 calls. */
+    /** All that can be seen of an object without a change of it, by some 200 calls at most. */
     static String look(TideRakes rakes) {
         StringBuilder all = new StringBuilder(glance(rakes));
         for (int what = 0; what < 11; what++) {
@@ -94,11 +94,15 @@ final class Edges {
         for (int worker = 0; worker < rakes.count(1); worker++) {
             all.append(" w").append(rakes.worker(worker, 0)).append(',').append(rakes.worker(worker, 1)).append(',')
                 .append(rakes.worker(worker, 3)).append(',').append(rakes.worker(worker, 4)).append(" plan")
-                .append(rakes.plan(worker, 600, 2)).append(" mends").append(rakes.mends(worker, 600, 2));
+                .append(rakes.plan(worker, 600, 2)).append(',').append(rakes.planAt(worker, 600, 0)).append(" mends")
+                .append(rakes.mends(worker, 600, 2)).append(" quickest").append(rakes.quickest(worker, 0)).append(" spare")
+                .append(rakes.spare(worker, 600)).append(" after").append(rakes.after(worker, 600, 300));
         }
         for (int minute : new int[] {0, 1, 2, 3, 5, 10, 14, 20, 40, 54, 100, 300, 405, 412, 562, 599}) {
             all.append(" s").append(rakes.seen(minute)).append(" t").append(rakes.minute(minute, 0));
         }
+        all.append(" two").append(rakes.two(0, 1, 600, 1)).append(',').append(rakes.two(0, 1, 600, 2)).append(" best")
+            .append(rakes.bestMinute()).append(" fails").append(rakes.fails(3));
         all.append(" hands").append(rakes.hands(600, 1)).append(" large").append(rakes.large(600));
         all.append(" hope").append(rakes.hope(20, 9)).append(" late").append(rakes.late(rakes.count(9), -1));
         return all.toString();

@@ -156,16 +156,21 @@ final class PlanEdges {
         dueOrder(Edges.told("part a 0 1 5 1;part b 0 1 5 1;part c 0 1 5 1;worker w 0 1 1;"), 600, 2, 1, 0, -2);
         // b can't be ahead of a: he would come too late to c; c must be the last one
         dueOrder(Edges.told("part a 1 1 5 1;part b 2 1 5 1;part c 3 1 5 1;worker w 0 1 1;"), 600, 0, 1, 2, -2);
-        StringBuilder eight = new StringBuilder("worker w 0 1 1;");
-        for (char c = 'a'; c <= 'h'; c++) {
-            eight.append("part p").append(c).append(" 0 1 5 2;");
-        }
-        TideRakes rakes = Edges.told(eight.toString());
+        TideRakes rakes = Edges.told("worker w 0 1 1;" + eight());
         dueOrder(rakes, 600, 7, 6, 5, 4, 3, 2, 1, 0, -2);
-        dueOrder(rakes, 16, 7, 6, 5, 4, 3, 2, 1, 0, -2);
-        dueOrder(rakes, 15, 6, 5, 4, 3, 2, 1, 0, -2);
-        dueOrder(rakes, 2, 0, -2);
-        dueOrder(rakes, 1, -2);
+        dueOrder(rakes, 8, 7, 6, 5, 4, 3, 2, 1, 0, -2);
+        dueOrder(rakes, 7, 6, 5, 4, 3, 2, 1, 0, -2);
+        dueOrder(rakes, 1, 0, -2);
+        dueOrder(rakes, 0, -2);
+    }
+
+    /** Eight PARTS that take a minute each, all at one place. */
+    private static String eight() {
+        StringBuilder all = new StringBuilder();
+        for (char c = 'a'; c <= 'h'; c++) {
+            all.append("part p").append(c).append(" 0 1 5 1;");
+        }
+        return all.toString();
     }
 
     private static void promptRows() {
@@ -175,6 +180,10 @@ final class PlanEdges {
             + "tide=if minute<300 then 7 else 1;");
         duePlan(rakes, 0, 600, 4, 301, 15);
         dueOrder(rakes, 600, 1, 2, 0, 3, -2);
+        // of a row that waits only its own PARTS count: a, worth nothing, is not among them
+        TideRakes waiting = Edges.told("part a 30 9 0 1;part b 10 9 1 1;part c 40 5 1 1;worker w 0 9 1;tide=if minute<300 then 7 else 1;");
+        duePlan(waiting, 0, 600, 2, 301, 6);
+        dueOrder(waiting, 600, 1, 2, -2);
     }
 
     private static void planAtOfNone() {
@@ -225,6 +234,17 @@ final class PlanEdges {
         dueTwo(other, 2, 5, 0, 1);
         rakes.send(0, 0);
         dueTwo(rakes, 600, 5, 0, 2);
+        // u is far: all by the first one; and the other way round
+        TideRakes alone = Edges.told("part a 0 1 5 1;part b 0 1 5 1;worker w 0 1 1;worker u 99 99 1;");
+        dueTwo(alone, 2, 10, 3, 0);
+        Edges.dueRow("by the other one", what -> alone.two(1, 0, 2, what), 10, 0, 3);
+        dueTwo(Edges.told("part a 0 1 1 1;worker w 99 99 1;worker u 0 1 1;"), 1, 1, 0, 1);
+        dueTwo(Edges.told("part a 0 1 1 1;worker w 0 1 1;worker u 99 99 1;"), 1, 1, 1, 0);
+        // w is ready behind b: his row is empty
+        TideRakes busy = Edges.told("part a 0 1 5 1;part b 0 1 5 5;worker w 0 1 1;worker u 0 1 1;");
+        Edges.due("w", busy.send(0, 1), 5);
+        dueTwo(busy, 3, 5, 0, 1);
+        Edges.dueRow("the busy one second", what -> busy.two(1, 0, 3, what), 5, 1, 0);
     }
 
     private static void twoOfNone() {
@@ -267,9 +287,22 @@ final class PlanEdges {
         dueHands(Edges.told(three + "worker w 0 1 1;"), 2, 10, 3);
         dueHands(Edges.told("part z 0 1 0 1;part a 0 1 1 1;worker w 0 1 1;"), 600, 1, 2);
         TideRakes done = Edges.told(ALIKE);
+        dueHands(done, 1, 10, 3);
         done.send(1, 0);
         dueHands(done, 1, 5, 2);
         dueHands(done, 600, 5, 2);
+        done.undo();
+        dueHands(done, 600, 10, 3);
+        TideRakes busy = Edges.told("part a 0 1 5 1;part b 0 1 5 5;worker w 0 1 1;worker u 0 1 1;");
+        busy.send(0, 1);
+        dueHands(busy, 3, 5, 1);
+        TideRakes most = Edges.told(eight() + "worker w 0 1 1;worker u 0 1 1;worker t 0 1 1;");
+        dueHands(most, 1, 15, 7);
+        dueHands(most, 2, 30, 63);
+        dueHands(most, 3, 40, 255);
+        dueTwo(most, 2, 20, 3, 12);
+        dueTwo(most, 8, 40, 0, 255);
+        dueQuickest(most, 0, 1);
         TideRakes late = Edges.told(ONE + "holds 598 600;");
         dueHands(late, 600, 5, 1);
         dueHands(late, 599, 0, 0);
@@ -308,6 +341,9 @@ final class PlanEdges {
         later.send(0, 0);
         Edges.due("than he is", later.spare(0, 600), 594);
         Edges.due("than he is, by 6", later.spare(0, 6), 0);
+        Edges.due("worth 1", Edges.told("part a 0 1 1 3;worker w 0 1 1;").spare(0, 600), 597);
+        // a way of 4 minutes by 3 a minute
+        Edges.due("with a way", Edges.told("part a 10 1 5 3;worker w 0 1 3;").spare(0, 600), 593);
         // by 7 he does a or b, each worth 5, and b takes less
         Edges.due("by another row", Edges.told("part a 0 1 5 6;part b 0 1 5 2;worker w 0 1 1;").spare(0, 7), 5);
     }
@@ -437,6 +473,13 @@ final class PlanEdges {
         Edges.due("what is there by 0", rakes.after(0, 0, 2), 700);
         rakes.cross(1);
         Edges.due("but what is CROSSED", rakes.after(0, 3, 3), 500);
+        // b in 11, c in 22, a in 33, d in 301
+        TideRakes four = Edges.told("part a 30 9 1 1;part b 10 9 2 1;part c 20 9 4 1;part d 40 5 8 1;worker w 0 9 1;"
+            + "tide=if minute<300 then 7 else 1;");
+        int[][] rows = {{10, 0}, {11, 2}, {21, 2}, {22, 6}, {32, 6}, {33, 7}, {300, 7}, {301, 15}};
+        for (int[] row : rows) {
+            Edges.due("of four in " + row[0], four.after(0, 600, row[0]), 100 * row[1]);
+        }
         TideRakes waves = Edges.told("part a 0 0 5 2;worker w 0 0 1;high=5;tide=if minute<4 then 0 else if minute<5 then 5 else 0;");
         Edges.due("ahead of the water", waves.after(0, 600, 3), 500);
         Edges.due("WASHED", waves.after(0, 600, 4), 0);
@@ -573,6 +616,8 @@ final class PlanEdges {
         Edges.due("as if nothing was raked", rakes.large(4), 4);
         Edges.due("a text of one WORKER", Bench.read(rakes, "part a 0 1 5 4;part b 0 1 0 4;worker w 0 1 1;peg 0 1;"), 0);
         Edges.due("one does both", rakes.large(4), 2);
+        Edges.due("eight PARTS by three WORKERS", Edges.told(eight() + "worker w 0 1 1;worker u 0 1 1;worker t 0 1 1;peg 0 1;").large(6), 8);
+        Edges.due("eight PARTS by one", Edges.told(eight() + "worker w 0 1 1;peg 0 1;").large(16), 8);
         TideRakes three = Edges.told("part a 0 1 5 4;part b 0 1 0 4;part c 0 1 1 4;worker w 0 1 1;worker u 0 1 1;worker t 0 1 1;peg 0 1;");
         Edges.due("shared by three", three.large(4), 4);
     }

@@ -46,6 +46,8 @@ final class TextEdges {
         wrong();
         faultyText();
         textInPlace();
+        fewerInPlace();
+        manyTexts();
     }
 
     // ---- promise 1
@@ -359,14 +361,32 @@ final class TextEdges {
         dueLaws(rakes, 1, 2, 3, 4, 5);
         Edges.due("read", Bench.read(rakes, "part a 3 7 1 1;peg 1 1;"), 0);
         dueLaws(rakes, 7, 0, 100, 8, 0);
+        // each of them alone not told, the others told ahead of all or behind, and behind two texts that told it
+        String all = "high=1;tide=2;sun=3;slip=4;dog=5;part a 3 7 1 1;";
+        int[] untold = {7, 0, 100, 8, 0};
+        for (int missing = 0; missing < 5; missing++) {
+            int[] due = {11, 12, 13, 14, 15};
+            String others = "";
+            for (int law = 0; law < 5; law++) {
+                others += law == missing ? "" : LAWS[law] + "=" + due[law] + ";";
+            }
+            due[missing] = untold[missing];
+            dueLaws(Edges.told(others + "part a 3 7 1 1;peg 1 1;"), due);
+            dueLaws(Edges.told("part a 3 7 1 1;peg 1 1;" + others), due);
+            TideRakes third = Edges.told(all);
+            Edges.due("read", Bench.read(third, all), 0);
+            Edges.due("read", Bench.read(third, others + "part a 3 7 1 1;peg 1 1;"), 0);
+            dueLaws(third, due);
+        }
     }
 
-    private static void dueLaws(TideRakes rakes, int high, int tide, int sun, int slip, int dog) {
-        Edges.due("HIGH", rakes.part(0, 0), high);
-        Edges.due("TIDE", rakes.minute(9, 0), tide);
-        Edges.due("SUN", rakes.minute(9, 1), sun);
-        Edges.due("SLIP", rakes.error(0, false), slip);
-        Edges.due("DOG", rakes.dog(0, 9), dog);
+    /** HIGH, TIDE, SUN, SLIP, DOG. */
+    private static void dueLaws(TideRakes rakes, int... due) {
+        Edges.due("HIGH", rakes.part(0, 0), due[0]);
+        Edges.due("TIDE", rakes.minute(9, 0), due[1]);
+        Edges.due("SUN", rakes.minute(9, 1), due[2]);
+        Edges.due("SLIP", rakes.error(0, false), due[3]);
+        Edges.due("DOG", rakes.dog(0, 9), due[4]);
     }
 
     private static void lastLaws() {
@@ -562,6 +582,11 @@ final class TextEdges {
         Edges.dueNoFault("sun=((((((1))))))+((((((1))))))*((((((1))))));");
         Edges.dueNoFault("sun=(((((" + "(1)+(2)*(3)" + ")))));");
         Edges.dueNoFault("sun=if ((((((1))))))<((((((2)))))) then ((((((3)))))) else ((((((4))))));");
+        // the most that can wait: one side of an if, and in each bracket a sum and a product
+        String deep = "1+2*(1+2*(1+2*(1+2*(1+2*(1+2*(1+2*3))))))";
+        Edges.due("sums in six of them", Edges.told("tide=" + deep + ";").minute(0, 0), 511);
+        Edges.due("in an if", Edges.told("tide=if 510<" + deep + " then " + deep + "-1 else 3;").minute(0, 0), 510);
+        Edges.due("in the next if", Edges.told("tide=if 511<" + deep + " then 3 else if " + deep + "<512 then 4 else 5;").minute(0, 0), 4);
         Edges.due("six of them", Edges.told("tide=2*(3+(4*(5+(6*(7+(8-1))))));").minute(0, 0), 2 * (3 + 4 * (5 + 6 * (7 + 7))));
     }
 
@@ -609,6 +634,7 @@ final class TextEdges {
         rakes.mend(1, 0);
         rakes.hold(1);
         rakes.send(0, 1);
+        rakes.cross(1);
         rakes.tell(0, 20, true);
         rakes.tell(1, 0, false);
         return rakes;
@@ -632,6 +658,8 @@ final class TextEdges {
     private static void textInPlace() {
         Edges.sentence(4, "WORKERS at their places from minute 0 on, nothing is raked, nothing can be undone, nothing is TOLD, SLOTS hold nothing.");
         TideRakes rakes = aDay();
+        // what plans were asked for must not stay
+        Edges.due("not yet as if it were the first", Edges.look(rakes).equals(Edges.look(Edges.told(DAY))), false);
         Edges.due("the same text again", Bench.read(rakes, DAY), 0);
         Edges.due("as if it were the first", Edges.look(rakes).equals(Edges.look(Edges.told(DAY))), true);
         Edges.due("nothing to undo", rakes.undo(), false);
@@ -645,5 +673,72 @@ final class TextEdges {
         Edges.dueRow("count", fewer::count, 0, 0, 1, 600, 0, 0, 0, 0, 0, 0, 0);
         Edges.due("no such PART any more", fewer.part(0, 1), -10000);
         Edges.due("no such WORKER any more", fewer.worker(0, 2), -1);
+    }
+
+    /** Eight PARTS, three WORKERS, all LAWS: more than any text behind it tells. */
+    private static String fullText() {
+        StringBuilder all = new StringBuilder("high=50+y;tide=if minute<200 then 10 else 55;sun=minute/2;slip=far+off+1;dog=x+1;holds 3 90;peg 7 8;seed 99;");
+        for (int i = 0; i < 8; i++) {
+            all.append("part p").append((char) ('a' + i)).append(' ').append(9 * i).append(' ').append(5 + i).append(' ').append(20 - i).append(" 4;");
+        }
+        return all + "worker u 9 9 2;worker v 8 8 3;worker w 7 7 4;";
+    }
+
+    private static TideRakes fullDay() {
+        TideRakes rakes = Edges.told(fullText());
+        for (int part = 0; part < 8; part++) {
+            Edges.due("send " + part, rakes.send(part % 3, part) > 0, true);
+        }
+        Edges.due("cross", rakes.cross(2) && rakes.cross(7), true);
+        Edges.due("mend", rakes.mend(1, 2) > 0, true);
+        for (int slot = 0; slot < 3; slot++) {
+            rakes.hold(slot);
+        }
+        rakes.tell(7, 9, true);
+        Edges.due("eight PARTS are seen or not", rakes.seen(150), 127);
+        return rakes;
+    }
+
+    private static void fewerInPlace() {
+        Edges.sentence(4, "else it is in place of the one ahead");
+        for (String fewer : new String[] {"", "part a 3 7 9 2;worker q 1 1 5;", "worker q 1 1 5;worker r 2 2 1;part a 3 7 9 2;part b 60 7 9 2;"}) {
+            String due = Edges.look(Edges.told(fewer));
+            TideRakes rakes = fullDay();
+            Edges.look(rakes);
+            Edges.due("read behind a fuller one", Bench.read(rakes, fewer), 0);
+            String got = Edges.look(rakes);
+            Edges.due("as if it were the first [" + got + "], [" + due + "]", got.equals(due), true);
+            // a faulty one ahead of it leaves nothing either, and a third text is like the first
+            TideRakes faulty = new TideRakes();
+            Edges.due("a fuller, faulty one", Bench.read(faulty, fullText() + "!"), 1);
+            Edges.due("read behind it", Bench.read(faulty, fewer), 0);
+            Edges.due("as if there were no faulty one", Edges.look(faulty).equals(due), true);
+            TideRakes third = Edges.told(fullText());
+            Edges.due("a fuller one again", Bench.read(third, fullText()), 0);
+            Edges.due("read behind both", Bench.read(third, fewer), 0);
+            Edges.due("as if it were the only one", Edges.look(third).equals(due), true);
+        }
+        int lot = ToldEdges.lot(0, 8);
+        for (int seed : new int[] {1, 4711, 9999}) {
+            for (int more = 0; more < 2; more++) {
+                TideRakes seeds = new TideRakes();
+                Edges.due("a faulty SEED", Bench.read(seeds, "seed " + seed + ";holds 0 0;"), 5);
+                Edges.due("no SEED", Bench.read(seeds, "part a 1 1 1 1;worker w 1 1 1;dog=" + (lot + more) + ";"), 0);
+                seeds.send(0, 0);
+                Edges.due("as not told", seeds.hopes(1, 1, 1), 1 - more);
+            }
+        }
+    }
+
+    /** The longest texts one behind the other: no room of one is lost to the next. */
+    private static void manyTexts() {
+        Edges.sentence(4, "it is in place of the one ahead");
+        TideRakes rakes = new TideRakes();
+        for (int i = 0; i < 8; i++) {
+            Edges.due("400 TOKENS", Bench.read(rakes, "tide=" + "1+".repeat(198) + i + ";"), 0);
+            Edges.due("TIDE of text " + i, rakes.minute(0, 0), 198 + i);
+            Edges.due("401 TOKENS", Bench.read(rakes, "tide=" + "1+".repeat(199) + "1;"), 2);
+            Edges.due("TIDE stays", rakes.minute(599, 0), 198 + i);
+        }
     }
 }

@@ -64,16 +64,27 @@ final class ToldEdges {
 
     private static void lessThanLot() {
         Edges.sentence(29, "it is run over if LOT 100 of a SEED and 8 * u + its number is less than DOG tells: then it is not SEEN in m.");
-        for (int seed : new int[] {0, 1, 4711, 9999}) {
+        for (int told : new int[] {0, 1, 4711, 9999}) {
             for (int part : new int[] {0, 3, 7}) {
                 for (int comes : new int[] {0, 9, 98}) {
-                    int lot = lot(seed, 8 * (comes + 1) + part);
-                    String more = "seed " + seed + ";dog=";
+                    int lot = lot(told, 8 * (comes + 1) + part);
+                    String more = "seed " + told + ";dog=";
                     Edges.due("LOT as much as DOG", oneOfEight(part, comes, more + lot + ";").hopes(comes + 1, 1, 1), 1);
                     Edges.due("LOT less than DOG", oneOfEight(part, comes, more + (lot + 1) + ";").hopes(comes + 1, 1, 1), 0);
                 }
             }
         }
+        int seed = 0;
+        while (lot(seed, 8) != 0) {
+            seed++;
+        }
+        Edges.due("the least LOT and DOG 1", oneOfEight(0, 0, "dog=1;seed " + seed + ";").hopes(1, 1, 1), 0);
+        Edges.due("the least LOT and DOG 0", oneOfEight(0, 0, "dog=0;seed " + seed + ";").hopes(1, 1, 1), 1);
+        while (lot(seed, 8) != 99) {
+            seed++;
+        }
+        Edges.due("the greatest LOT and DOG 100", oneOfEight(0, 0, "dog=100;seed " + seed + ";").hopes(1, 1, 1), 0);
+        Edges.due("the greatest LOT and DOG 99", oneOfEight(0, 0, "dog=99;seed " + seed + ";").hopes(1, 1, 1), 1);
         Edges.due("DOG 0", oneOfEight(0, 0, "dog=0;").hopes(599, 1, 50), 50);
         Edges.due("DOG 100", oneOfEight(0, 0, "dog=100;").hopes(1, 1, 50), 0);
         Edges.due("DOG of more", oneOfEight(0, 0, "dog=101;").hopes(1, 0, 50), 50);
@@ -349,7 +360,7 @@ final class ToldEdges {
         String part = "part a 0 1 9 2;";
         Edges.due("one WORKER", Edges.told(part + "worker w 0 1 1;").late(0, -1), 61);
         Edges.due("two", Edges.told(part + "worker w 0 1 1;worker u 5 1 1;").late(0, -1), 121);
-        Edges.due("three", Edges.told(part + "worker w 0 1 1;worker u 5 1 1;worker t 5 1 1;").late(0, -1), 181);
+        dueWays(Edges.told(part + "worker w 0 1 1;worker u 5 1 1;worker t 5 1 1;"), 181, 0, 0, 60, 60, 61, 101, 120, 160, 121, 201, 180, 260);
         TideRakes rakes = Edges.told(part + "worker w 0 1 1;worker u 5 1 1;");
         Edges.due("a DONE", rakes.send(0, 0), 2);
         // DONE from 2 and his minutes on
@@ -509,9 +520,16 @@ final class ToldEdges {
             for (int i = 0; i < 4; i++) {
                 rakes.undo();
             }
+            // acts of other kinds, WORKERS and PARTS in their places
             rakes.send(1, 1);
+            rakes.send(0, 0);
             rakes.cross(1);
+            rakes.mend(0, 1);
+            rakes.cross(0);
+            Edges.look(rakes);
             Edges.due("restore " + slot, rakes.restore(slot), true);
+            // a is MENDED from 6 on, and b DONE by 14 only if w was not late
+            dueWays(rakes, 61, 0, 0, 1, 101, 60, 160);
             TideRakes still = aDay();
             still.hold(slot);
             still.restore(slot);
@@ -577,6 +595,10 @@ final class ToldEdges {
         rakes.undo();
         Edges.due("what is held last", rakes.restore(0) && rakes.part(1, 5) == 1, true);
         Edges.due("plans go on from there", rakes.plan(0, 600, 1), 3);
+        Edges.due("nothing to plan", rakes.plan(0, 600, 2) + rakes.hands(600, 1), 0);
+        rakes.restore(2);
+        Edges.due("plans with b again", rakes.plan(0, 600, 2), 2);
+        Edges.due("hands with b again", rakes.hands(600, 1), 2);
     }
 
     private static void restoreOfNone() {
