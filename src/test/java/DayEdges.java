@@ -10,6 +10,7 @@ final class DayEdges {
 
     static void tryAll() {
         minutesOfTheDay();
+        sums();
         firstIf();
         wrapping();
         towardsZero();
@@ -68,6 +69,18 @@ final class DayEdges {
             Edges.due("TIDE in " + minute, rakes.minute(minute, 0), -10000);
             Edges.due("SUN in " + minute, rakes.minute(minute, 1), -10000);
         }
+    }
+
+    private static void sums() {
+        Edges.sentence(8, "E: PART {('+' | '-') PART}. PART: UNIT {('*' | '/') UNIT}. UNIT: INT | VAR | '(' E ')'.");
+        String[] sums = {"2+3*4", "2*3+4", "10-3-2", "10-(3-2)", "10-3+2", "100/10/5", "100/(10/5)", "100/10*5", "7/2*2", "7*2/2", "10-2*3+4/2", "(2+3)*4",
+            "((5))", "minute", "minute*2+1", "(minute-7)*(minute+1)"};
+        int[] due = {14, 10, 5, 9, 9, 2, 50, 50, 6, 7, 6, 20, 5, 0, 1, -7};
+        for (int i = 0; i < sums.length; i++) {
+            Edges.due(sums[i], tide(sums[i]), due[i]);
+        }
+        Edges.due("sums on both sides", tide("if 1+2*3<2*3+2 then 4-1 else 5"), 3);
+        Edges.due("as much on both sides", tide("if 1+2*3<2*3+1 then 4-1 else 5*1"), 5);
     }
 
     private static void firstIf() {
@@ -319,6 +332,7 @@ final class DayEdges {
             rakes = Edges.told("high=1;part a 0 0 1 1;worker w " + row[0] + " " + row[1] + " " + row[2] + ";");
             Edges.due("from " + row[0] + " " + row[1] + " by " + row[2], rakes.send(0, 0), row[3] + 1);
         }
+        Edges.sentence(11, "SENT: a WORKER, from when he is ready, goes to a PART (from where he is)");
         TideRakes rakes = Edges.told("high=1;part a 9 9 1 1;part b 7 12 1 1;worker w 9 0 2;");
         Edges.due("first to a", rakes.send(0, 0), 6);
         Edges.due("from where he is, when he is ready: 3 minutes", rakes.send(0, 1), 10);
@@ -717,6 +731,7 @@ final class DayEdges {
         for (int minute : NO_MINUTES) {
             Edges.due("photo in " + minute, rakes.photo(minute), -1);
         }
+        Edges.sentence(16, "A PHOTOGRAPH in a minute: WORTH of all SEEN, together, times SUN.");
         rakes = Edges.told("part a 0 1 7 1;worker w 0 1 1;sun=if minute<5 then 0 else if minute<6 then 1 else 300;");
         rakes.send(0, 0);
         Edges.due("without SUN", rakes.photo(4), 0);

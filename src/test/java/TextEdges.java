@@ -24,7 +24,9 @@ final class TextEdges {
         names();
         words();
         ints();
+        longestTokens();
         longerOnes();
+        signs();
         partNumbers();
         manyParts();
         workerNumbers();
@@ -262,6 +264,37 @@ final class TextEdges {
         Edges.due("zeros ahead", Edges.told("tide=0012;").minute(0, 0), 12);
         Edges.dueFault("tide=00012;", 1, 5);
         Edges.dueFault("tide=10000;", 1, 5);
+    }
+
+    private static void longestTokens() {
+        Edges.sentence(4, "TOKENS, the longest that can be");
+        Edges.dueNoFault("part ab 1 1 1 1;part a 1 1 1 1;part b 1 1 1 1;");
+        Edges.dueFault("part a b 1 1 1 1;", 1, 7);
+        Edges.dueFault("parta 1 1 1 1;", 1, 0);
+        Edges.dueFault("part a 1 11 1;", 1, 13);
+        Edges.dueNoFault("part a 1 11 1 1;");
+        Edges.dueFault("seed 99 99;", 1, 8);
+        Edges.dueNoFault("seed 9999;");
+        Edges.due("one INT, not two", Edges.told("tide=12;").minute(0, 0), 12);
+        Edges.dueFault("tide=1 2;", 1, 7);
+        // letters and digits end one another
+        Edges.due("no blanks", Edges.told("tide=if1<2then3else4;").minute(0, 0), 3);
+        Edges.dueFault("tide=ifx<2then3else4;", 1, 5);
+        Edges.dueFault("tide=if 1<x then3else4;tide=if 1<xthen 3else4;", 1, 33);
+        Edges.dueFault("tide=if1<2then3elsex;", 1, 15);
+        Edges.dueFault("part a1b 1 1 1;", 1, 7);
+    }
+
+    private static void signs() {
+        Edges.sentence(4, "SIGNS ; = + - * / < ( ) .");
+        for (String no : new String[] {"==", "<=", "<<", "--", "++", "**", "//", ";;", "()", ")(", "."}) {
+            for (String text : new String[] {"sun=1" + no + "2;", "sun=1 " + no.charAt(0) + " " + no.substring(1) + " 2;"}) {
+                TideRakes rakes = new TideRakes();
+                Edges.due("read of [" + text + "]", Bench.read(rakes, text), 1);
+            }
+        }
+        Edges.dueFault("sun=1.5;", 1, 5);
+        Edges.dueFault("seed 1;.", 1, 7);
     }
 
     private static void longerOnes() {

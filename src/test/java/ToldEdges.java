@@ -9,6 +9,7 @@ final class ToldEdges {
 
     static void tryAll() {
         lessThanLot();
+        lots();
         dogMinutes();
         dogsOfMended();
         seeds();
@@ -18,6 +19,7 @@ final class ToldEdges {
         hopeOfNone();
         dogAnswers();
         leastErrors();
+        settledOnes();
         firstSettled();
         measuredFrom();
         errorOfNone();
@@ -26,6 +28,8 @@ final class ToldEdges {
         tellOfNone();
         forgetting();
         lateOnes();
+        everyWay();
+        lateInTheBeginning();
         lateByNobody();
         lateInOrder();
         lateThatCannot();
@@ -91,6 +95,26 @@ final class ToldEdges {
         TideRakes seen = oneOfEight(0, 0, "dog=100;");
         Edges.due("SEEN is told without dogs", seen.seen(9), 1);
         Edges.due("a PHOTOGRAPH too", seen.photo(9), 200);
+    }
+
+    private static void lots() {
+        Edges.sentence(29, "then h and h moved 15 bits down (zeros come in), likewise; the rest of h, moved 1 bit down likewise, by n (32 bits that wrap).");
+        // SEED, minute, PART, LOT 100: h begins with a 1 in the first step, in the second one, in both or in none
+        int[][] rows = {{0, 1, 0, 60}, {0, 1, 7, 4}, {0, 300, 3, 58}, {0, 599, 7, 54}, {1, 599, 0, 62}, {29, 1, 0, 54}, {29, 599, 7, 24},
+            {4711, 300, 3, 63}, {9999, 1, 0, 13}, {9999, 300, 3, 95}, {9999, 599, 0, 47}, {9999, 599, 7, 39}};
+        for (int[] row : rows) {
+            String ahead = "seed " + row[0] + ";dog=if minute<" + row[1] + " then 0 else ";
+            Edges.due("DOG as much as LOT", oneOfEight(row[2], 0, ahead + row[3] + ";").hopes(row[1], 1, 1), 1);
+            Edges.due("DOG 1 more", oneOfEight(row[2], 0, ahead + (row[3] + 1) + ";").hopes(row[1], 1, 1), 0);
+        }
+        // SEEDS go on beyond 9999: the 50th is 10048, whose LOT is 0; the 49 ahead of it are not
+        TideRakes last = oneOfEight(7, 0, "seed 9999;dog=if minute<599 then 0 else 1;");
+        int left = 0;
+        for (int seed = 9999; seed < 10048; seed++) {
+            left += lot(seed, 8 * 599 + 7) > 0 ? 1 : 0;
+        }
+        Edges.due("of 49", last.hopes(599, 1, 49), left);
+        Edges.due("of 50", last.hopes(599, 1, 50), left);
     }
 
     private static void dogMinutes() {
@@ -256,6 +280,27 @@ final class ToldEdges {
         dueErrors(Edges.told("part a 3 0 1 1;part b 2 0 1 1;part c 1 0 1 1;slip=far*far;"), 3, 1, 2, 2, 1, -2);
     }
 
+    private static void settledOnes() {
+        Edges.sentence(32, "PARTS are settled one by one");
+        // eight in a row, a step each: each is measured from the one ahead, however they are numbered
+        int[][] orders = {{1, 2, 3, 4, 5, 6, 7, 8}, {8, 7, 6, 5, 4, 3, 2, 1}, {5, 2, 8, 1, 7, 4, 3, 6}};
+        for (int[] order : orders) {
+            StringBuilder text = new StringBuilder("slip=far*far;");
+            int[] numbers = new int[9];
+            numbers[0] = -2;
+            for (int i = 0; i < 8; i++) {
+                text.append("part p").append((char) ('a' + i)).append(" 0 ").append(order[i]).append(" 1 1;");
+                numbers[order[i]] = i;
+            }
+            TideRakes rakes = Edges.told(text.toString());
+            for (int i = 0; i < 8; i++) {
+                Edges.due("ERROR of " + i, rakes.error(i, false), order[i]);
+                Edges.due("FROM of " + i, rakes.error(i, true), numbers[order[i] - 1]);
+            }
+            Edges.due("all above 0", rakes.fails(0), 255);
+        }
+    }
+
     private static void firstSettled() {
         Edges.sentence(32, "always the one, of those not settled, that has least, measured from the PEG or from one that is settled (of alike ones the first by numbers)");
         // p and q have 3 from s alike: p is settled first, so that q has 3 from p, too, and p is ahead of s
@@ -308,7 +353,7 @@ final class ToldEdges {
     // ---- promises 34 and 35
 
     private static void telling() {
-        Edges.sentence(34, "It is TOLD: its number; NONE, and nothing happens: 20 are there, no such ones.");
+        Edges.sentence(34, "TOLD: whether a PART was SEEN in a minute (0 .. 599), 20 at most, numbered from 0 on");
         TideRakes rakes = Edges.told(ONE);
         rakes.send(0, 0);
         for (int i = 0; i < 20; i++) {
@@ -322,7 +367,7 @@ final class ToldEdges {
     }
 
     private static void tellOfNone() {
-        Edges.sentence(34, "20 are there, no such ones.");
+        Edges.sentence(34, "It is TOLD: its number; NONE, and nothing happens: 20 are there, no such ones.");
         TideRakes rakes = Edges.told(ONE);
         for (int minute : NO_MINUTES) {
             Edges.due("minute " + minute, rakes.tell(0, minute, true), -1);
@@ -396,6 +441,37 @@ final class ToldEdges {
         }
         Edges.due("not so many", rakes.late(known, many), -1);
         Edges.due("far too many", rakes.late(known, Edges.MOST), -1);
+    }
+
+    private static void everyWay() {
+        Edges.sentence(36, "how many ways (i NONE), else the i-th by WORKERS, then minutes: 100 * the WORKER + how many");
+        TideRakes rakes = Edges.told("part a 0 1 9 2;worker w 0 1 1;worker u 5 1 1;worker t 5 1 1;");
+        Edges.due("how many", rakes.late(0, TideRakes.NONE), 181);
+        Edges.dueRow("without delay", i -> rakes.late(0, i), 0);
+        for (int i = 1; i <= 60; i++) {
+            Edges.due("way " + i, rakes.late(0, i), i);
+            Edges.due("way " + (60 + i), rakes.late(0, 60 + i), 100 + i);
+            Edges.due("way " + (120 + i), rakes.late(0, 120 + i), 200 + i);
+        }
+        Edges.due("no more", rakes.late(0, 181), -1);
+    }
+
+    private static void lateInTheBeginning() {
+        Edges.sentence(36, "he was ready later in the beginning: with all that was done by hand since the text");
+        // a is FREE from 30 on: who is late by 30 at most waits for it all the same, and b follows
+        TideRakes rakes = Edges.told("part a 0 5 9 2;part b 0 9 9 2;worker w 0 5 1;high=y;tide=if minute<30 then 5 else 0;");
+        Edges.due("a", rakes.send(0, 0), 32);
+        Edges.due("b", rakes.send(0, 1), 38);
+        rakes.tell(0, 32, true);
+        dueWays(rakes, 31, 0, 0, 30, 30);
+        rakes.tell(1, 38, true);
+        dueWays(rakes, 31, 0, 0, 30, 30);
+        rakes.forget();
+        rakes.tell(1, 39, true);
+        rakes.tell(1, 38, false);
+        dueWays(rakes, 1, 0, 31);
+        Edges.due("he is ready as he was", rakes.worker(0, 2), 38);
+        Edges.due("and PARTS DONE as they were", rakes.part(0, 1) + rakes.part(1, 1), 70);
     }
 
     private static void lateByNobody() {
@@ -614,7 +690,8 @@ final class ToldEdges {
     }
 
     private static void counting() {
-        Edges.sentence(39, "4 PARTS that were DONE, 5 CROSSED ones, 6 acts by hand since the text, 7 bytes on the tape, 8 things that can be undone,"
+        Edges.sentence(39, "0 PARTS, 1 WORKERS, 2 HOLDS' from, 3 its to, 4 PARTS that were DONE, 5 CROSSED ones, 6 acts by hand since the text,"
+            + " 7 bytes on the tape, 8 things that can be undone,"
             + " 9 TOLD ones, 10 SLOTS that hold something.");
         TideRakes rakes = aDay();
         Edges.dueRow("count", rakes::count, 2, 2, 1, 600, 2, 0, 4, 0, 4, 2, 0, -1);
