@@ -8,6 +8,7 @@ public final class EdgesTest {
         DayEdges.tryAll();
         PlanEdges.tryAll();
         ToldEdges.tryAll();
+        LastEdges.tryAll();
         Edges.everyPromiseIsNamed();
         Bench.end();
     }

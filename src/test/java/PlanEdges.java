@@ -480,6 +480,10 @@ final class PlanEdges {
         for (int[] row : rows) {
             Edges.due("of four in " + row[0], four.after(0, 600, row[0]), 100 * row[1]);
         }
+        TideRakes sunny = Edges.told(ONE + "sun=if minute<4 then 0 else minute*3;");
+        Edges.due("without SUN", sunny.after(0, 600, 3), 0);
+        Edges.due("times SUN of that minute", sunny.after(0, 600, 4), 5 * 12);
+        Edges.due("times the most SUN", sunny.after(0, 600, 599), 5 * 100);
         TideRakes waves = Edges.told("part a 0 0 5 2;worker w 0 0 1;high=5;tide=if minute<4 then 0 else if minute<5 then 5 else 0;");
         Edges.due("ahead of the water", waves.after(0, 600, 3), 500);
         Edges.due("WASHED", waves.after(0, 600, 4), 0);

@@ -185,6 +185,14 @@ final class ToldEdges {
         }
         Edges.due("nothing SEEN, v 0", rakes.hopes(0, 0, 7), 7);
         Edges.due("nothing SEEN, v 1", rakes.hopes(0, 1, 7), 0);
+        // SUN of that minute: 0, 3, 6 ..
+        TideRakes sunny = oneOfEight(0, 0, "sun=minute*3-3;");
+        int[][] suns = {{1, 0}, {2, 3}, {3, 6}, {34, 99}, {35, 100}, {599, 100}};
+        for (int[] row : suns) {
+            Edges.due("as much in " + row[0], sunny.hopes(row[0], 2 * row[1], 7), 7);
+            Edges.due("more in " + row[0], sunny.hopes(row[0], 2 * row[1] + 1, 7), 0);
+            Edges.due("together in " + row[0], sunny.hope(row[0], 7), 7 * 2 * row[1]);
+        }
         // of two PARTS one is run over
         TideRakes two = Edges.told("part a 0 1 2 1;part b 9 1 3 1;worker w 0 1 1;worker u 9 1 1;dog=if x<1 then 100 else 0;");
         two.send(0, 0);
@@ -526,6 +534,13 @@ final class ToldEdges {
         mended.forget();
         mended.tell(0, 9, false);
         dueWays(mended, 54, 0, 7, 53, 60);
+        // the same of another PART
+        TideRakes second = Edges.told("part z 9 1 0 1;" + text);
+        second.send(0, 1);
+        second.cross(1);
+        Edges.due("a MENDED as the second PART", second.mend(0, 1), 3);
+        second.tell(1, 9, true);
+        dueWays(second, 7, 0, 0, 6, 6);
         // raked again only if it is WASHED by then: it is not if he comes ahead of the water
         TideRakes again = Edges.told("part a 0 0 9 2;worker w 0 0 1;worker u 10 0 1;high=5;"
             + "tide=if minute<10 then 0 else if minute<11 then 5 else 0;");
